@@ -242,11 +242,7 @@ public final class FlowCodes {
         if (refusal != 0) {
             return refusal;
         }
-        Logic worked = workedOut(signal);
-        if (product < 0 || product >= worked.sumSize) {
-            return UNKNOWN;
-        }
-        return toldOf(worked.sum[product], what);
+        return workedOut(signal).ofSum(product, what);
     }
 
     public int wide(int signal, int product, int what) {
@@ -254,11 +250,7 @@ public final class FlowCodes {
         if (refusal != 0) {
             return refusal;
         }
-        Logic worked = workedOut(signal);
-        if (product < 0 || product >= worked.wideSize) {
-            return UNKNOWN;
-        }
-        return toldOf(worked.wides[product], what);
+        return workedOut(signal).ofWide(product, what);
     }
 
     // ---- walks
@@ -380,13 +372,6 @@ public final class FlowCodes {
             return STATE;
         }
         return signal < 0 || signal >= theCode.size ? UNKNOWN : 0;
-    }
-
-    private static int toldOf(int product, int what) {
-        if (what == 0) {
-            return Cubes.askedOf(product);
-        }
-        return what == 1 ? Cubes.onesOf(product) : OUTSIDE;
     }
 
     /** What follows from THE CODE is brought up to date; sums wait until they are asked for. */
@@ -737,7 +722,7 @@ public final class FlowCodes {
             }
             signals[size] = bits;
             for (int state = 0; state < MOST_ROWS; state++) {
-                codes[state] |= (bits >> state & 1) << size;
+                codes[state] |= ((bits >> state) & 1) << size;
             }
             size++;
             return true;
@@ -817,7 +802,7 @@ public final class FlowCodes {
 
         /** Two ways meet unless some SIGNAL stays 0 on the one and 1 on the other one. */
         private boolean waysMeet(int from, int to, int otherFrom, int otherTo) {
-            int changing = codeOf(from) ^ codeOf(to) | codeOf(otherFrom) ^ codeOf(otherTo);
+            int changing = (codeOf(from) ^ codeOf(to)) | (codeOf(otherFrom) ^ codeOf(otherTo));
             return ((codeOf(from) ^ codeOf(otherFrom)) & ~changing) == 0;
         }
 
@@ -873,7 +858,7 @@ public final class FlowCodes {
             if (point < 0 || point >= MOST_POINTS || codes[point] == NONE) {
                 return NONE;
             }
-            return codes[point] >> signal & 1;
+            return (codes[point] >> signal) & 1;
         }
 
         int pointsWith(int signal, int value) {
@@ -887,10 +872,7 @@ public final class FlowCodes {
         }
     }
 
-    /**
-     * All PRODUCTS of a SIGNAL, with what is WANTED at their POINTS. A PRODUCT is told by one
-     * number, ASKED bits above and those of 1 below, so that the order of numbers is theirs.
-     */
+    /** All PRODUCTS of a SIGNAL, with what is WANTED at their POINTS. */
     static final class Cubes {
         private static final int HAS_ONE = 1, HAS_ZERO = 2;
         private static final int PRODUCTS = 2187;
@@ -905,18 +887,6 @@ public final class FlowCodes {
             }
         }
 
-        static int productOf(int asked, int ones) {
-            return asked << MOST_BITS | ones;
-        }
-
-        static int askedOf(int product) {
-            return product >> MOST_BITS;
-        }
-
-        static int onesOf(int product) {
-            return product & (MOST_POINTS - 1);
-        }
-
         /** A digit to the base 3 for each BIT: 0, 1, or 2 if it is not ASKED. */
         private int indexOf(int asked, int ones) {
             return inThrees[ones & asked & all] + 2 * inThrees[all & ~asked];
@@ -926,14 +896,15 @@ public final class FlowCodes {
         void look(Aims aims, int signal) {
             all = aims.points() - 1;
             for (int asked = all; asked >= 0; asked--) {
-                int spare = Integer.lowestOneBit(all & ~asked);
+                int free = all & ~asked;
+                int spare = free & -free;
                 int ones = 0;
                 for (int left = 1 << Integer.bitCount(asked); left > 0; left--) {
                     int found = spare == 0
                         ? seenAtPoint(aims.at(signal, ones))
                         : seen[indexOf(asked | spare, ones)] | seen[indexOf(asked | spare, ones | spare)];
                     seen[indexOf(asked, ones)] = (byte) found;
-                    ones = ones - asked & asked;
+                    ones = (ones - asked) & asked;
                 }
             }
         }
@@ -965,7 +936,8 @@ public final class FlowCodes {
         // so: all that ask five (21 ways to choose these, 32 ways to fill them).
         private static final int MOST_WIDE = 672;
 
-        private final int[] wides = new int[MOST_WIDE];
+        private final int[] asked = new int[MOST_WIDE];
+        private final int[] ones = new int[MOST_WIDE];
         private final int[] sum = new int[MOST_WIDE];
         private int wideSize;
         private int sumSize;
@@ -974,14 +946,15 @@ public final class FlowCodes {
 
         void collectWide(Cubes cubes) {
             wideSize = 0;
-            for (int asked = 0; asked <= cubes.all; asked++) {
-                int ones = 0;
-                for (int left = 1 << Integer.bitCount(asked); left > 0; left--) {
-                    if (wideSize < MOST_WIDE && cubes.isWide(asked, ones)) {
-                        wides[wideSize] = Cubes.productOf(asked, ones);
+            for (int asks = 0; asks <= cubes.all; asks++) {
+                int values = 0;
+                for (int left = 1 << Integer.bitCount(asks); left > 0; left--) {
+                    if (wideSize < MOST_WIDE && cubes.isWide(asks, values)) {
+                        asked[wideSize] = asks;
+                        ones[wideSize] = values;
                         wideSize++;
                     }
-                    ones = ones - asked & asked;
+                    values = (values - asks) & asks;
                 }
             }
         }
@@ -995,20 +968,15 @@ public final class FlowCodes {
             }
             int plain = sumSize;
             for (int point = 0; point < aims.points(); point++) {
-                if (aims.at(signal, point) == 1) {
-                    coverPairs(aims, signal, point);
+                for (int place = 0; place < aims.bits; place++) {
+                    int bit = 1 << place;
+                    boolean low = (point & bit) == 0;
+                    if (low && aims.at(signal, point) == 1 && aims.at(signal, point | bit) == 1) {
+                        cover(point, bit);
+                    }
                 }
             }
             flickers = sumSize - plain;
-        }
-
-        private void coverPairs(Aims aims, int signal, int point) {
-            for (int place = 0; place < aims.bits; place++) {
-                int bit = 1 << place;
-                if ((point & bit) == 0 && aims.at(signal, point | bit) == 1) {
-                    cover(point, bit);
-                }
-            }
         }
 
         /** Sees to it that one PRODUCT of SUM has the POINT, and the one with the bit as 1 (0: no bit). */
@@ -1019,9 +987,11 @@ public final class FlowCodes {
                 }
             }
             int best = NONE;
+            int fewest = MOST_BITS + 1;
             for (int i = 0; i < wideSize; i++) {
-                if (hasBoth(wides[i], point, bit) && (best == NONE || askedIn(wides[i]) < askedIn(best))) {
-                    best = wides[i];
+                if (hasBoth(i, point, bit) && Integer.bitCount(asked[i]) < fewest) {
+                    best = i;
+                    fewest = Integer.bitCount(asked[i]);
                 }
             }
             if (best != NONE && sumSize < MOST_WIDE) {
@@ -1030,21 +1000,30 @@ public final class FlowCodes {
             }
         }
 
-        private static boolean hasBoth(int product, int point, int bit) {
-            int asked = Cubes.askedOf(product);
-            return (asked & bit) == 0 && (point & asked) == Cubes.onesOf(product);
-        }
-
-        private static int askedIn(int product) {
-            return Integer.bitCount(Cubes.askedOf(product));
+        private boolean hasBoth(int product, int point, int bit) {
+            return (asked[product] & bit) == 0 && (point & asked[product]) == ones[product];
         }
 
         int askedInSum() {
-            int asked = 0;
+            int all = 0;
             for (int i = 0; i < sumSize; i++) {
-                asked += askedIn(sum[i]);
+                all += Integer.bitCount(asked[sum[i]]);
             }
-            return asked;
+            return all;
+        }
+
+        int ofSum(int product, int what) {
+            return product >= 0 && product < sumSize ? ofWide(sum[product], what) : UNKNOWN;
+        }
+
+        int ofWide(int product, int what) {
+            if (product < 0 || product >= wideSize) {
+                return UNKNOWN;
+            }
+            if (what == 0) {
+                return asked[product];
+            }
+            return what == 1 ? ones[product] : OUTSIDE;
         }
     }
 
